@@ -19,6 +19,8 @@ public final class WallMirror {
     private static final long SEED_FACTOR = 6364136223846793005L;
     private static final long SEED_STEP = 1442695040888963407L;
     private static final int BITS_BELOW_UPPER_31 = 33;
+    /** Far above the 46 that two ints can need. */
+    private static final int MOST_STEPS_OF_DIVISION = 1000;
 
     private final Text text = new Text();
     private final Court now = new Court();
@@ -554,7 +556,7 @@ public final class WallMirror {
     }
 
     private static int commonDivisor(int a, int b) {
-        while (b != 0) {
+        for (int step = 0; b != 0 && step < MOST_STEPS_OF_DIVISION; step++) {
             int rest = a % b;
             a = b;
             b = rest;
