@@ -42,6 +42,12 @@ public final class ChosenTest {
         Due.due("chosen(3) behind a dead one", y.chosen(3), 0);
         Due.due("chosenWorth(2) behind a dead one", y.chosenWorth(2), 1);
         Due.due("chosenWorth(3) behind a dead one", y.chosenWorth(3), -1);
+        WallMirror z = Due.mirror("Q100P6000P7000");
+        Due.due("chosenWorth(1) asked first", z.chosenWorth(1), 5);
+        for (int i = 0; i < 3; i++) {
+            z.plain(1, 0);
+        }
+        choices("asked again when it is plainer", z, new int[] {0}, new int[] {4});
         choices("five of them", Due.mirror("Q111P3330P4440P4440P1110P9000P0900"),
             new int[] {2, 2, 0, 1, 1}, new int[] {6, 6, 3, 8, 8});
     }
@@ -91,6 +97,8 @@ public final class ChosenTest {
         Due.due("nearest(0) of 991", Due.mirror("Q991P0500P5000").nearest(0), 891);
         Due.due("nearest(0) that is", Due.mirror("Q210P5000P0500").nearest(0), 210);
         Due.due("nearest(0) of 060", Due.mirror("Q060P5000P0500").nearest(0), 100);
+        Due.due("nearest(0) that is the last row", Due.mirror("Q999P5550P0000").nearest(0), 999);
+        Due.due("nearest(0) that is the first row", Due.mirror("Q001P0050P5000").nearest(0), 1);
         Due.due("nearest(0) of two alike", Due.mirror("Q111P5550P5550").nearest(0), WallMirror.NONE);
         Due.due("nearest(0) of one", Due.mirror("Q345P0000").nearest(0), 345);
         WallMirror y = Due.mirror("Q111P5000P0500P5000");
@@ -117,6 +125,9 @@ public final class ChosenTest {
         reignOf("Q210P5500P6000P0800", WallMirror.NONE, 2);
         reignOf("Q900P9001P0900", 9, 9);
         reignOf("Q120P9501P0800", 1, 9);
+        // the last one is feared for 4 (5) mornings and moves nothing, then the others take 26 weights in turn
+        reignOf("Q999P8880P0090P0900P9000P7761", WallMirror.NONE, 30);
+        reignOf("Q999P8880P0090P0900P9000P8871", WallMirror.NONE, WallMirror.NONE);
         WallMirror x = Due.mirror("Q111P9991P8880P1110");
         x.hunt(1, false);
         Due.due("reign(false) with the rival dead", x.reign(false), 8);
