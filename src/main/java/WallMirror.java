@@ -16,6 +16,8 @@ public final class WallMirror {
     private static final int QUEEN_ALONE = 1;
     /** Read as three figures, the numbers 1 to 999 are all rows of WEIGHTS but the one of nothing. */
     private static final int ROWS_OF_WEIGHTS = 999;
+    /** More than two rows of WEIGHTS can be apart, which is 27. */
+    private static final int FARTHER_THAN_ALL = 28;
     private static final long SEED_FACTOR = 6364136223846793005L;
     private static final long SEED_STEP = 1442695040888963407L;
     private static final int BITS_BELOW_UPPER_31 = 33;
@@ -309,7 +311,7 @@ public final class WallMirror {
         }
         trial.copyFrom(now);
         int best = NONE;
-        int bestDistance = Integer.MAX_VALUE;
+        int bestDistance = FARTHER_THAN_ALL;
         for (int row = 1; row <= ROWS_OF_WEIGHTS; row++) {
             trial.weighBy(row);
             int distance = trial.weightsApartFrom(now);

@@ -93,13 +93,6 @@ public final class ActsTest {
         Due.marks(x, 0, 0, 0, 1);
         Due.marks(x, 1, 2, 3, 3);
         Due.due("acts", x.about(7), 4);
-        Due.refused(x, "plain(-1, 0)", () -> x.plain(-1, 0), WallMirror.UNKNOWN);
-        Due.refused(x, "plain(3, 0)", () -> x.plain(3, 0), WallMirror.UNKNOWN);
-        Due.refused(x, "plain(0, -1)", () -> x.plain(0, -1), WallMirror.UNKNOWN);
-        Due.refused(x, "plain(0, 3)", () -> x.plain(0, 3), WallMirror.UNKNOWN);
-        Due.refused(x, "plain(2, 3)", () -> x.plain(2, 3), WallMirror.UNKNOWN);
-        Due.refused(x, "plain(0, 0) of 0", () -> x.plain(0, 0), WallMirror.LATE);
-        Due.refused(x, "plain(2, 0) of a dead one", () -> x.plain(2, 0), WallMirror.LATE);
         WallMirror y = Due.mirror("Q111P0120P3330");
         y.hunt(1, true);
         Due.due("plain(1, 2) of one reported", y.plain(1, 2), 2);

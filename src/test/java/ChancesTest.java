@@ -2,15 +2,11 @@
 public final class ChancesTest {
     public static void main(String[] args) {
         saying();
-        sayingRefused();
         believed();
-        believedRefused();
         chance();
-        chanceRefused();
         seed();
         hunted();
         huntedOfSome();
-        huntedRefused();
         Due.end();
     }
 
@@ -42,18 +38,6 @@ public final class ChancesTest {
         sayingOf(Due.mirror("Q100P0000"), 0, 7, 1, 1);
     }
 
-    private static void sayingRefused() {
-        WallMirror x = Due.mirror("Q111P5550P5550P1110");
-        x.hunt(2, false);
-        Due.refused(x, "saying(-1, 5)", () -> x.saying(-1, 5, true), WallMirror.UNKNOWN);
-        Due.refused(x, "saying(3, 5)", () -> x.saying(3, 5, true), WallMirror.UNKNOWN);
-        Due.refused(x, "saying(3, 11)", () -> x.saying(3, 11, false), WallMirror.UNKNOWN);
-        Due.refused(x, "saying(0, -1)", () -> x.saying(0, -1, true), WallMirror.BAD);
-        Due.refused(x, "saying(0, 11)", () -> x.saying(0, 11, false), WallMirror.BAD);
-        Due.refused(x, "saying(2, 11)", () -> x.saying(2, 11, true), WallMirror.BAD);
-        Due.refused(x, "saying(2, 5)", () -> x.saying(2, 5, true), WallMirror.LATE);
-    }
-
     private static void believedOf(WallMirror x, int person, int[] tenths, int above, int below) {
         String call = "believed(" + person + ", " + tenths[0] + ", " + tenths[1] + ")";
         Due.fraction(call, x.believed(person, tenths[0], tenths[1], true),
@@ -76,20 +60,6 @@ public final class ChancesTest {
         believedOf(x, 1, new int[] {5, 6}, 12, 13);
         believedOf(Due.mirror("Q111P5550"), 0, new int[] {3, 4}, 1, 1);
         believedOf(Due.mirror("Q111P0000P0000P0000P0000P0000P0000"), 5, new int[] {9, 9}, 605, 606);
-    }
-
-    private static void believedRefused() {
-        WallMirror x = Due.mirror("Q111P5550P5550P1110");
-        x.hunt(2, false);
-        Due.refused(x, "believed(-1, 5, 5)", () -> x.believed(-1, 5, 5, true), WallMirror.UNKNOWN);
-        Due.refused(x, "believed(3, 5, 5)", () -> x.believed(3, 5, 5, true), WallMirror.UNKNOWN);
-        Due.refused(x, "believed(3, 11, 5)", () -> x.believed(3, 11, 5, true), WallMirror.UNKNOWN);
-        Due.refused(x, "believed(0, -1, 5)", () -> x.believed(0, -1, 5, true), WallMirror.BAD);
-        Due.refused(x, "believed(0, 11, 5)", () -> x.believed(0, 11, 5, true), WallMirror.BAD);
-        Due.refused(x, "believed(0, 5, -1)", () -> x.believed(0, 5, -1, true), WallMirror.BAD);
-        Due.refused(x, "believed(0, 5, 11)", () -> x.believed(0, 5, 11, false), WallMirror.BAD);
-        Due.refused(x, "believed(2, 5, 11)", () -> x.believed(2, 5, 11, true), WallMirror.BAD);
-        Due.refused(x, "believed(2, 5, 5)", () -> x.believed(2, 5, 5, true), WallMirror.LATE);
     }
 
     private static void chanceOf(WallMirror x, int tenths, int above, int below) {
@@ -119,16 +89,6 @@ public final class ChancesTest {
         }
         chanceOf(five, 7, 243, 100000);
         chanceOf(five, 5, 1, 32);
-    }
-
-    private static void chanceRefused() {
-        WallMirror x = Due.mirror("Q111P5550P6660");
-        Due.refused(x, "chance(-1)", () -> x.chance(-1, true), WallMirror.BAD);
-        Due.refused(x, "chance(11)", () -> x.chance(11, false), WallMirror.BAD);
-        WallMirror nobody = new WallMirror();
-        Due.refused(nobody, "chance(11) of nobody", () -> nobody.chance(11, true), WallMirror.BAD);
-        Due.refused(nobody, "chance(5) of nobody", () -> nobody.chance(5, true), WallMirror.LATE);
-        Due.refused(nobody, "chance(5) of nobody", () -> nobody.chance(5, false), WallMirror.LATE);
     }
 
     private static void seed() {
@@ -173,17 +133,5 @@ public final class ChancesTest {
         Due.due("hunted(3) takes 1, though reported, and 5, that is dead", x.hunted(3), 4);
         Due.due("hunted(2) goes on with the seed and takes 4", x.hunted(2), 4);
         Due.due("seed(0)", x.seed(0), 7076646890315895283L);
-    }
-
-    private static void huntedRefused() {
-        WallMirror x = Due.mirror("Q100P1110P1110");
-        x.seed(9);
-        Due.refused(x, "hunted(0)", () -> x.hunted(0), WallMirror.BAD);
-        Due.refused(x, "hunted(-1)", () -> x.hunted(-1), WallMirror.BAD);
-        Due.refused(x, "hunted(31)", () -> x.hunted(31), WallMirror.BAD);
-        WallMirror nobody = new WallMirror();
-        nobody.seed(9);
-        Due.refused(nobody, "hunted(31) of nobody", () -> nobody.hunted(31), WallMirror.BAD);
-        Due.refused(nobody, "hunted(3) of nobody", () -> nobody.hunted(3), WallMirror.LATE);
     }
 }

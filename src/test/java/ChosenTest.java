@@ -2,7 +2,6 @@
 public final class ChosenTest {
     public static void main(String[] args) {
         chosen();
-        chosenRefused();
         measures();
         nearest();
         reign();
@@ -50,21 +49,6 @@ public final class ChosenTest {
         choices("asked again when it is plainer", z, new int[] {0}, new int[] {4});
         choices("five of them", Due.mirror("Q111P3330P4440P4440P1110P9000P0900"),
             new int[] {2, 2, 0, 1, 1}, new int[] {6, 6, 3, 8, 8});
-    }
-
-    private static void chosenRefused() {
-        WallMirror x = Due.mirror("Q100P9000P7000P5000");
-        x.hunt(2, false);
-        Due.refused(x, "chosen(-1)", () -> x.chosen(-1), WallMirror.UNKNOWN);
-        Due.refused(x, "chosen(3)", () -> x.chosen(3), WallMirror.UNKNOWN);
-        Due.refused(x, "chosen(0)", () -> x.chosen(0), WallMirror.BAD);
-        Due.refused(x, "chosen(2)", () -> x.chosen(2), WallMirror.LATE);
-        Due.refused(x, "chosenWorth(-1)", () -> x.chosenWorth(-1), WallMirror.UNKNOWN);
-        Due.refused(x, "chosenWorth(3)", () -> x.chosenWorth(3), WallMirror.UNKNOWN);
-        Due.refused(x, "chosenWorth(0)", () -> x.chosenWorth(0), WallMirror.BAD);
-        Due.refused(x, "chosenWorth(2)", () -> x.chosenWorth(2), WallMirror.LATE);
-        Due.due("chosen(0) of nobody", new WallMirror().chosen(0), WallMirror.UNKNOWN);
-        Due.due("chosenWorth(0) of nobody", new WallMirror().chosenWorth(0), WallMirror.UNKNOWN);
     }
 
     private static void measures() {
@@ -176,12 +160,5 @@ public final class ChosenTest {
         Due.due("what is seen", Due.seen(x), before);
         x.hunt(1, false);
         Due.fraction("rate(0, 1) with it dead", x.rate(0, 1, true), x.rate(0, 1, false), 50, 111);
-        Due.refused(x, "rate(-1, 0)", () -> x.rate(-1, 0, true), WallMirror.UNKNOWN);
-        Due.refused(x, "rate(0, -1)", () -> x.rate(0, -1, true), WallMirror.UNKNOWN);
-        Due.refused(x, "rate(4, 0)", () -> x.rate(4, 0, false), WallMirror.UNKNOWN);
-        Due.refused(x, "rate(0, 4)", () -> x.rate(0, 4, false), WallMirror.UNKNOWN);
-        Due.refused(x, "rate(4, 4)", () -> x.rate(4, 4, true), WallMirror.UNKNOWN);
-        Due.refused(x, "rate(1, 1)", () -> x.rate(1, 1, true), WallMirror.BAD);
-        Due.refused(x, "rate(0, 0)", () -> x.rate(0, 0, false), WallMirror.BAD);
     }
 }

@@ -1,6 +1,8 @@
 import java.util.function.LongSupplier;
+import java.util.function.Supplier;
+import java.util.function.ToLongFunction;
 
-/** What the tests share: comparing answers, and making mirrors from texts. */
+/** What the tests share: comparing answers, and making mirrors from texts. An object answers for 512 calls only. */
 final class Due {
     private static int wrong = 0;
     private static int asked = 0;
@@ -24,20 +26,29 @@ final class Due {
         }
     }
 
-    /** A call that is to be refused, and to change nothing that can be seen. */
+    /** A call that is to be refused, and to change nothing that can be seen (up to 105 calls). */
     static void refused(WallMirror x, String call, LongSupplier answer, long want) {
         String before = seen(x);
         due(call, answer.getAsLong(), want);
         due("what is seen after " + call, seen(x), before);
     }
 
-    /** All that can be seen of a mirror without changing it. */
+    /** A call that is to be refused, and to change nothing at all: ACTS and SLOTS are as on a mirror made alike. */
+    static void refused(Supplier<WallMirror> made, String call, ToLongFunction<WallMirror> answer, long want) {
+        WallMirror x = made.get();
+        due(call, answer.applyAsLong(x), want);
+        due(call + " once more", answer.applyAsLong(x), want);
+        due("all behind " + call, all(x), all(made.get()));
+    }
+
+    /** All that can be seen of a mirror without changing it (at most 52 calls). */
     static String seen(WallMirror x) {
         StringBuilder all = new StringBuilder();
         for (int what = 0; what < 10; what++) {
             all.append(x.about(what)).append(' ');
         }
-        for (int person = 0; person < x.about(0); person++) {
+        int people = x.about(0);
+        for (int person = 0; person < people; person++) {
             for (int what = 0; what < 6; what++) {
                 all.append(x.person(person, what)).append(' ');
             }
@@ -46,6 +57,45 @@ final class Due {
         long seed = x.seed(0);
         x.seed(seed);
         return all.append(' ').append(seed).toString();
+    }
+
+    /** All that can be found out of a mirror, which is used up by it (at most 336 calls). */
+    static String all(WallMirror x) {
+        StringBuilder all = new StringBuilder(seen(x));
+        all.append(" asks ").append(x.toAsk());
+        for (int left = x.undo(), acts = 0; left >= 0 && acts < 14; left = x.undo(), acts++) {
+            all.append(" undone ").append(left);
+            values(x, all);
+        }
+        allMarks(x, all);
+        for (int slot = 0; slot < 2; slot++) {
+            all.append(" slot ").append(slot).append(' ').append(x.again(slot));
+            allMarks(x, all);
+        }
+        all.append(" heard ").append(x.unhear()).append(" court ").append(x.court());
+        allMarks(x, all);
+        return all.toString();
+    }
+
+    private static void counts(WallMirror x, StringBuilder all) {
+        all.append(' ').append(x.about(1)).append(' ').append(x.about(2)).append(' ').append(x.about(4)).append(' ')
+            .append(x.about(5)).append(' ').append(x.about(6)).append(':');
+    }
+
+    private static void values(WallMirror x, StringBuilder all) {
+        counts(x, all);
+        int people = x.about(0);
+        for (int person = 0; person < people; person++) {
+            all.append(' ').append(x.person(person, 6));
+        }
+    }
+
+    private static void allMarks(WallMirror x, StringBuilder all) {
+        counts(x, all);
+        int people = x.about(0);
+        for (int person = 0; person < people; person++) {
+            all.append(' ').append(x.person(person, 0)).append(x.person(person, 1)).append(x.person(person, 2));
+        }
     }
 
     static void write(WallMirror x, String text) {

@@ -10,7 +10,7 @@ public final class LanguageTest {
         "\\b(throw|throws|try|catch|finally|synchronized|assert|import|package|protected|native|volatile)\\b",
         "->", "::", "\\bObject\\b", "\\bSystem\\.(?!arraycopy\\b)", "Exact\\b", "\\bhashCode\\b", "\\btoString\\b",
         "\\bRandom\\b", "\\bThread\\b", "\\bMath\\.random\\b", "\\bvar\\b", "\\bpublic (static )?class\\b",
-        "\\bstatic \\{", "\\bnew [A-Za-z]+\\([^)]*\\) \\{"};
+        "\\bstatic \\{", "\\bnew [A-Za-z]+\\([^)]*\\) \\{", "\\b(Integer|Long|Math)\\.[A-Z]", "[^\\x0a\\x20-\\x7e]"};
 
     public static void main(String[] args) throws IOException {
         String program = Files.readString(Path.of("src/main/java/WallMirror.java"));

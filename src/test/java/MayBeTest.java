@@ -2,7 +2,6 @@
 public final class MayBeTest {
     public static void main(String[] args) {
         judged();
-        judgedRefused();
         hear();
         unhear();
         worlds();
@@ -10,7 +9,6 @@ public final class MayBeTest {
         worldsOfOthers();
         toAsk();
         answer();
-        answerRefused();
         Due.end();
     }
 
@@ -41,21 +39,6 @@ public final class MayBeTest {
         Due.due("judged(3, 5)", y.judged(3, 5), 2);
         Due.due("judged(1, 0) of nobody", new WallMirror().judged(1, 0), 0);
         Due.due("judged(8, 0) of nobody", new WallMirror().judged(8, 0), 0);
-    }
-
-    private static void judgedRefused() {
-        WallMirror x = Due.mirror("Q210P9991P8880P7000");
-        Due.refused(x, "judged(0, 0)", () -> x.judged(0, 0), WallMirror.BAD);
-        Due.refused(x, "judged(-1, 0)", () -> x.judged(-1, 0), WallMirror.BAD);
-        Due.refused(x, "judged(9, 0)", () -> x.judged(9, 0), WallMirror.BAD);
-        Due.refused(x, "judged(1, -1)", () -> x.judged(1, -1), WallMirror.BAD);
-        Due.refused(x, "judged(1, 10)", () -> x.judged(1, 10), WallMirror.BAD);
-        Due.refused(x, "judged(2, 100)", () -> x.judged(2, 100), WallMirror.BAD);
-        Due.refused(x, "judged(8, 100000000)", () -> x.judged(8, 100000000), WallMirror.BAD);
-        Due.refused(x, "judged(8, most)", () -> x.judged(8, Integer.MAX_VALUE), WallMirror.BAD);
-        Due.refused(x, "judged(most, 0)", () -> x.judged(Integer.MAX_VALUE, 0), WallMirror.BAD);
-        WallMirror y = new WallMirror();
-        Due.refused(y, "judged(0, 0) of nobody", () -> y.judged(0, 0), WallMirror.BAD);
     }
 
     private static void hear() {
@@ -209,13 +192,5 @@ public final class MayBeTest {
         Due.due("answer(0, true) of nobody", nobody.answer(0, true), 0);
         Due.due("answer(1, false) of nobody", nobody.answer(1, false), 0);
         Due.due("answer(1, true) of nobody", nobody.answer(1, true), WallMirror.NONE);
-    }
-
-    private static void answerRefused() {
-        WallMirror x = Due.mirror("Q111P5550P5550P1110P2220");
-        Due.refused(x, "answer(-1, false)", () -> x.answer(-1, false), WallMirror.BAD);
-        Due.refused(x, "answer(-1, true)", () -> x.answer(-1, true), WallMirror.BAD);
-        Due.refused(x, "answer(7, false)", () -> x.answer(7, false), WallMirror.BAD);
-        Due.refused(x, "answer(7, true)", () -> x.answer(7, true), WallMirror.BAD);
     }
 }

@@ -430,7 +430,8 @@ final class PlainMirror {
 
     private List<List<Integer>> aloneBy(int person) {
         List<Integer> alive = now.alive();
-        return ALL_WEIGHTS.stream().filter(by -> now.fairest(alive, by).equals(new TreeSet<>(List.of(person)))).toList();
+        TreeSet<Integer> alone = new TreeSet<>(List.of(person));
+        return ALL_WEIGHTS.stream().filter(by -> now.fairest(alive, by).equals(alone)).toList();
     }
 
     int measures(int person) {

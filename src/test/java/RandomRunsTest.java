@@ -1,8 +1,12 @@
 import java.util.Random;
 
-/** Long runs of calls, drawn by fixed seeds, on the program and on the plain telling of the document: all alike. */
+/**
+ * Long runs of calls, drawn by fixed seeds, on the program and on the plain telling of the document: all alike. Half
+ * of the runs keep mostly to one theme, so that rows come to be full, texts to be long, and much is done at an edge.
+ */
 public final class RandomRunsTest {
-    private static final int RUNS = 400;
+    private static final int RUNS = 600;
+    private static final int THEMES = 6;
     private static final int CALLS = 512;
 
     private final Random random;
@@ -24,11 +28,14 @@ public final class RandomRunsTest {
     }
 
     private void go() {
+        boolean hasTheme = run % 2 == 1;
         while (calls + 45 <= CALLS) {
-            if (calls == 0 || random.nextInt(60) == 0) {
+            if (calls == 0 || random.nextInt(hasTheme ? 200 : 60) == 0) {
                 newCourt();
+            } else if (hasTheme && random.nextInt(5) > 0) {
+                next(run / 2 % THEMES);
             } else {
-                next();
+                next(random.nextInt(THEMES));
             }
         }
     }
@@ -90,13 +97,32 @@ public final class RandomRunsTest {
         return upTo(Math.max(0, y.about(0) - 1));
     }
 
-    private void next() {
-        switch (random.nextInt(5)) {
+    private void next(int theme) {
+        switch (theme) {
             case 0 -> act();
             case 1 -> maybe();
             case 2 -> measured();
             case 3 -> chances();
+            case 4 -> text();
             default -> rest();
+        }
+    }
+
+    /** A byte or a few more, most of them such as could come next, and what the text is then. */
+    private void text() {
+        for (int times = random.nextInt(6); times > 0; times--) {
+            int place = y.about(9);
+            int likely = place == 0 ? 'Q' : place >= 4 && place % 5 == 4 ? 'P' : '0' + random.nextInt(3);
+            int letter = random.nextInt(40) == 0 ? upTo(255) : likely;
+            alike("write(" + letter + ")", x.write(letter), y.write(letter));
+        }
+        alike("fault()", x.fault(), y.fault());
+        if (random.nextInt(4) == 0) {
+            alike("court()", x.court(), y.court());
+            alike("about(1)", x.about(1), y.about(1));
+        }
+        if (random.nextInt(y.about(9) == 40 ? 4 : 20) == 0) {
+            alike("wipe()", x.wipe(), y.wipe());
         }
     }
 
