@@ -16,7 +16,7 @@ public final class WallMirror {
     private static final int QUEEN_ALONE = 1;
     /** Read as three figures, the numbers 1 to 999 are all rows of WEIGHTS but the one of nothing. */
     private static final int ROWS_OF_WEIGHTS = 999;
-    /** More than two rows of WEIGHTS can be apart, which is 27. */
+    /** More than any two rows of WEIGHTS are apart (27 at most). */
     private static final int FARTHER_THAN_ALL = 28;
     private static final long SEED_FACTOR = 6364136223846793005L;
     private static final long SEED_STEP = 1442695040888963407L;
